@@ -50,7 +50,12 @@ public final class TextsTest {
         Check.due("what was refused changed nothing", x.count(5), 239);
         Check.due("feed up to 240", x.feed(0, 1, 0, 0, 0), 240);
         Check.due("feed of nothing at 240", x.feed(0, 0, 0, 0, 0), 240);
-        Check.due("feed at 240", x.feed(1, 0, 0, 0, 0), NONE);
+        int[] words = new int[9];
+        words[4] = 1 << 16;
+        for (int i = 0; i < 5; i++) {
+            Check.due("feed at 240, word " + i, x.feed(words[i], words[i + 1], words[i + 2], words[i + 3], words[i + 4]), NONE);
+        }
+        Check.due("240 still", x.count(5), 240);
     }
 
     private static void end() {

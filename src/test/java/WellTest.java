@@ -135,6 +135,11 @@ public final class WellTest {
             y.sink(cell);
         }
         Check.due("ten less three", y.brings(2, 0), 7);
+        HeathForks z = Check.heath("sw3h3;vc4d60;f");
+        for (int cell = 1; cell < 9; cell++) {
+            z.sink(cell);
+        }
+        Check.due("as deep as can be, with wells all round", z.brings(4, 0), 0);
     }
 
     private static void season() {
@@ -193,6 +198,11 @@ public final class WellTest {
         Check.due("three more", x.cheapest(27, 0), 8 + 32);
         Check.due("four wells", x.cheapest(32, 0), 1 + 4 + 16);
         Check.due("four wells, apart", x.cheapest(33, 0), 1 + 8 + 32);
+        HeathForks most = Check.heath("sw6h2a0;vd1:rrrrr;vc6d1:rrrrr;f");
+        most.sink(0);
+        Check.due("cheapest(40, 0)", most.cheapest(40, 0), 4 + 16 + 128);
+        Check.due("cheapest(40, 1)", most.cheapest(40, 1), 3);
+        Check.due("cheapest(41, 1)", most.cheapest(41, 1), NONE);
         HeathForks y = Check.heath("sw6h1a2;vd10:r;f");
         y.sink(0);
         Check.due("too shallow in season 2", y.cheapest(1, 0), 2);
