@@ -1471,24 +1471,9 @@ public final class HeathForks {
 
         private boolean readUnit(Tape tape, int nested, boolean begun) {
             int sign = tape.peek();
-            if (begun || sign != '!' && sign != '(') {
-                return readComparison(tape, nested, begun);
+            if (!begun && (sign == '!' || sign == '(')) {
+                return readNested(tape, nested, sign);
             }
-            if (nested >= MOST_NESTED) {
-                return false;
-            }
-            tape.at++;
-            if (sign == '(') {
-                return readCondition(tape, nested + 1, false) && tape.take(')');
-            }
-            if (!readUnit(tape, nested + 1, false)) {
-                return false;
-            }
-            made.emit(NOT);
-            return true;
-        }
-
-        private boolean readComparison(Tape tape, int nested, boolean begun) {
             if (!begun && !readSum(tape, nested)) {
                 return false;
             }
@@ -1501,6 +1486,21 @@ public final class HeathForks {
                 return false;
             }
             made.emit(how);
+            return true;
+        }
+
+        private boolean readNested(Tape tape, int nested, int sign) {
+            if (nested >= MOST_NESTED) {
+                return false;
+            }
+            tape.at++;
+            if (sign == '(') {
+                return readCondition(tape, nested + 1, false) && tape.take(')');
+            }
+            if (!readUnit(tape, nested + 1, false)) {
+                return false;
+            }
+            made.emit(NOT);
             return true;
         }
 
