@@ -291,6 +291,12 @@ public final class EdgeHeathTest {
         Check.due("brackets are closer", worth("y:(1=1|1=1)&1=2?3;y:9"), 9);
         Check.due("! is of one unit", worth("y:!1=1&1=2|1=1?3;y:9"), 3);
         Check.due("! of brackets", worth("y:!(1=1&1=2)?3;y:9"), 3);
+        holds("1=1&1<2&2>1", true);
+        holds("1<2&1=1", true);
+        holds("2>1&1<2", true);
+        holds("!1=2&2>1", true);
+        holds("2>1&!1=2&1<2", true);
+        holds("!(1<2)|2>1", true);
         holds("1<1", false);
         holds("1>1", false);
         holds("1=1", true);

@@ -29,6 +29,7 @@ public final class EdgeTextsTest {
         nestedSix();
         nestedBesideOneAnother();
         clausesThatHaveAConditionAhead();
+        partsThatAreMissing();
         walksSigns();
         walksStretches();
         walksOfForksThatAreNotThere();
@@ -511,6 +512,31 @@ public final class EdgeTextsTest {
         due(1, "y:d=1", 5);
         due(1, "y:[d]=1?[d]", NONE);
         due(1, "y:d?1", 3);
+    }
+
+    // "the first byte at which no such TEXT can go on", where a part of a LAW is missing
+    private static void partsThatAreMissing() {
+        String[] heads = {"y:", "y:!", "y:(", "y:[", "y:1=", "y:1<", "y:1>", "y:1=1&", "y:1=1|", "y:!1=1&!", "y:(1=1|",
+            "y:1+", "y:1-", "y:1*", "y:1/", "y:[1+", "y:1=1?", "y:1=1?2*", "y:1=[", "y:(1=", "y:1=1&([1]>"};
+        for (String head : heads) {
+            for (String tail : new String[] {"?1", "&1=1?1", "|1=1?1", ")?1", "]", "=1?1", "+1", ";y:1", ""}) {
+                due(1, head + tail, head.length());
+                due(1, head + "  " + tail, head.length() + 2);
+            }
+        }
+        due(1, "y:(1=1", 6);
+        due(1, "y:(1=1?1", 6);
+        due(1, "y:(1=1;y:1", 6);
+        due(1, "y:(1=1]?1", 6);
+        due(1, "y:[1?1", 4);
+        due(1, "y:[1)", 4);
+        due(1, "y:1=1&2?1", 7);
+        due(1, "y:1=1&2&3=3?1", 7);
+        due(1, "y:!1?1", 4);
+        due(1, "y:!(1)?1", 5);
+        due(1, "y:(1=1)&[1]?1", 11);
+        due(1, "y:(1=1)(1=1)?1", 7);
+        due(1, "y:1=1!1=1?1", 5);
     }
 
     // "a digit (FORK), and 1 to 8 letters r d l u (STEPS)"
