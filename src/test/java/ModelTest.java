@@ -3,7 +3,7 @@ import java.util.Random;
 
 /** All promises: runs of calls by chance (always the same ones) on the class and on the model. */
 public final class ModelTest {
-    private static final int RUNS = 1100;
+    private static final int RUNS = 1250;
     private static final int TEXTS = 6000;
 
     private static Random random;
@@ -178,7 +178,7 @@ public final class ModelTest {
         if (pick(10) > 0) {
             tell(x, model, run, 0, heathText());
         }
-        for (int i = 0; i < 160; i++) {
+        for (int i = 0; i < 140; i++) {
             if (pick(30) == 0) {
                 int sort = pick(40) == 0 ? 0 : from(1, 2);
                 tell(x, model, run, sort, sort == 0 ? heathText() : sort == 1 ? lawText() : walksText());
