@@ -902,16 +902,14 @@ public final class HeathForks {
             }
         }
 
-        int signAt(int i) {
-            return i >= 0 && i < length && i < bytes.length ? bytes[i] : TEXT_END;
-        }
-
         /** The next sign that is no blank; the place is then at it. */
         int peek() {
-            while (at < length && signAt(at) == BLANK) {
-                at++;
+            for (; at >= 0 && at < length && at < bytes.length; at++) {
+                if (bytes[at] != BLANK) {
+                    return bytes[at];
+                }
             }
-            return signAt(at);
+            return TEXT_END;
         }
 
         boolean take(int sign) {
@@ -926,13 +924,16 @@ public final class HeathForks {
         int number(int mostDigits) {
             int value = 0;
             int digits = 0;
-            for (int sign = signAt(at); at < length && sign >= '0' && sign <= '9'; sign = signAt(at)) {
+            for (; at >= 0 && at < length && at < bytes.length; at++) {
+                int digit = bytes[at] - '0';
+                if (digit < 0 || digit > 9) {
+                    break;
+                }
                 if (digits == mostDigits) {
                     return NONE;
                 }
-                value = value * 10 + sign - '0';
+                value = value * 10 + digit;
                 digits++;
-                at++;
             }
             return digits == 0 ? NONE : value;
         }
@@ -1567,7 +1568,11 @@ public final class HeathForks {
                     return false;
                 }
                 tape.at++;
-                return readSum(tape, nested + 1) && tape.take(']');
+                if (!readSum(tape, nested + 1) || tape.peek() != ']') {
+                    return false;
+                }
+                tape.at++;
+                return true;
             }
             int letter = placeIn(LAW_LETTERS, sign);
             if (letter >= 0) {
