@@ -10,6 +10,7 @@ import java.util.Arrays;
 import java.util.List;
 import java.util.Set;
 import java.util.TreeSet;
+import java.util.regex.Matcher;
 import java.util.regex.Pattern;
 
 /** The public face as the document lists it, and what LANGUAGE.md rules out that can be seen from outside. */
@@ -91,17 +92,35 @@ public final class FaceTest {
             Check.due(one + " has few fields", one.getDeclaredFields().length <= 20, true);
             for (Method method : one.getDeclaredMethods()) {
                 fewParameters(method);
+                Check.due(one + " has a method of the face's name " + method.getName(),
+                    METHODS.contains(" " + method.getName() + "("), false);
             }
         }
+    }
+
+    /** From the line that opens a method to the one that closes it, as many columns in. */
+    private static void shortMethods(List<String> lines) {
+        Pattern opens = Pattern.compile("( {4}| {8})[^ /*}].*\\) (throws \\w+ )?\\{");
+        int found = 0;
+        for (int i = 0; i < lines.size(); i++) {
+            Matcher opening = opens.matcher(lines.get(i));
+            if (opening.matches() && !opening.group().trim().matches("(if|for|while|switch) .*")) {
+                int length = lines.subList(i, lines.size()).indexOf(opening.group(1) + "}") + 1;
+                Check.due("method at line " + (i + 1) + " is short", length > 0 && length <= 60, true);
+                found++;
+            }
+        }
+        Check.due("methods were found", found > 100, true);
     }
 
     private static void source() throws IOException {
         List<String> lines = Files.readAllLines(Path.of("src/main/java/HeathForks.java"));
         Pattern ruledOut = Pattern.compile("\\bcatch\\b|\\btry\\b|\\bfinally\\b|->|::|\\bsynchronized\\b|\\bassert\\b"
-            + "|\\bSystem\\.(?!arraycopy)|\\bExact\\b|\\bdouble\\b|\\bfloat\\b|\\bThread\\b|\\bfor \\(;;\\)|while \\(true\\)");
+            + "|\\bSystem\\.(?!arraycopy)|Exact\\b|\\bdouble\\b|\\bfloat\\b|\\bThread\\b|\\bfor \\(;;\\)|while \\(true\\)");
         for (int i = 0; i < lines.size(); i++) {
             Check.due("line " + (i + 1) + " is outside the rules", ruledOut.matcher(lines.get(i)).find(), false);
         }
+        shortMethods(lines);
         Check.due("one import at most", lines.stream().filter(line -> line.startsWith("import ")).count(), 1);
     }
 }
